@@ -739,7 +739,7 @@ public final class GalleyMarks {
         }
 
         private boolean movesFit(Mark other) {
-            if (isAlike(other)) {
+            if (first == other.first && second == other.second && third == other.third) {
                 return true;
             }
             if (third != other.third && (high <= other.low || other.high <= low)) {
@@ -1522,6 +1522,7 @@ public final class GalleyMarks {
         /** 1 for each move that is done. */
         private final int[] done = new int[SLOTS];
         private final Mark[] all = new Mark[FEWEST_ROOM];
+        private final int[] slots = new int[FEWEST_ROOM];
         private final Mark[] chosen = new Mark[FEWEST_ROOM];
         private final int[] clashing = new int[FEWEST_ROOM];
 
@@ -1554,9 +1555,11 @@ public final class GalleyMarks {
                 next[i] = i < last ? i + 1 : NONE;
                 before[i] = i - 1;
             }
-            Arrays.fill(touched, NONE);
-            for (int i = 0; i <= TEXT_ROOM; i++) {
+            for (int i = 0; i <= bytes && i <= TEXT_ROOM; i++) {
                 putIn[i] = null;
+            }
+            for (int i = 0; i < bytes && i < TEXT_ROOM; i++) {
+                touched[i] = NONE;
             }
         }
 
@@ -1660,31 +1663,25 @@ public final class GalleyMarks {
             return LACKS;
         }
 
+        /** Puts all MARKS into one row, HAND by HAND, each with its CLASHES as bits of a set. */
         private int gatherAll(Sheet sheet) {
             int count = 0;
             for (int slot = 0; slot < SLOTS; slot++) {
                 Mark mark = sheet.marks[slot];
                 if (mark != null && count < FEWEST_ROOM) {
                     all[count] = mark;
+                    slots[count] = slot;
                     count++;
                 }
             }
             for (int i = 0; i < count; i++) {
-                clashing[i] = clashesOf(i, count);
-            }
-            return count;
-        }
-
-        private int clashesOf(int i, int count) {
-            int bits = 0;
-            for (int j = 0; j < count && j < FEWEST_ROOM && i >= 0 && i < FEWEST_ROOM; j++) {
-                Mark one = all[i];
-                Mark other = all[j];
-                if (i != j && one != null && other != null && one.meets(other) != 0) {
-                    bits |= 1 << j;
+                long bits = sheet.clashing[slots[i]];
+                clashing[i] = 0;
+                for (int j = 0; j < count; j++) {
+                    clashing[i] |= (int) (bits >>> slots[j] & 1L) << j;
                 }
             }
-            return bits;
+            return count;
         }
 
         private boolean isFree(int set, int count) {

@@ -30,7 +30,16 @@ public final class TapeTest {
         for (int k = 0; k < 4; k++) {
             DUE.due("new back(" + k + ")", x.back(k), -1);
         }
-        DUE.due("new fewest()", x.fewest(), 0);
+        GalleyMarks y = new GalleyMarks();
+        DUE.due("new moved(1)", y.moved(1), -2);
+        DUE.due("new moved(2)", y.moved(2), -2);
+        DUE.due("new moved(3)", y.moved(3), -2);
+        DUE.due("new moved(0)", y.moved(0), 0);
+        DUE.due("new edit(-1)", new GalleyMarks().edit(-1), 0);
+        DUE.due("new edit(-2)", new GalleyMarks().edit(-2), 0);
+        DUE.due("new edit(0)", new GalleyMarks().edit(0), -1);
+        DUE.due("new clashes(0)", x.clashes(0), 0);
+        DUE.due("new fewest()", new GalleyMarks().fewest(), 0);
         DUE.due("NONE", GalleyMarks.NONE, -1);
     }
 
