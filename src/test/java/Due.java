@@ -1,6 +1,8 @@
 /** Counts answers that are not as due, and tells texts to the TAPE of an object. */
 final class Due {
     private final String name;
+    /** The sentence of the document that the answers rest on; told with each that is wrong. */
+    private String sentence = "";
     private int wrong;
     private int asked;
 
@@ -12,8 +14,16 @@ final class Due {
         asked++;
         if (got != want) {
             wrong++;
-            System.out.println(name + ": " + call + " answered " + got + ", due is " + want);
+            System.out.println(name + ": " + sentence + call + " answered " + got + ", due is " + want);
         }
+    }
+
+    /**
+     * What follows tests this sentence of a promise (0: of what stands ahead of Promise 1). SentencesTest looks
+     * whether the document says it in these words, and whether any sentence is left without a test.
+     */
+    void sentence(int promise, String words) {
+        sentence = "[" + promise + ": " + words + "] ";
     }
 
     void holds(String what, boolean holds) {
@@ -94,11 +104,24 @@ final class Due {
         return x;
     }
 
+    /** A galley with HANDS of ranks 0, 1, .. and the MARKS of each. */
+    static GalleyMarks hands(String galley, String... marks) {
+        GalleyMarks x = new GalleyMarks();
+        galley(x, galley);
+        for (int hand = 0; hand < marks.length; hand++) {
+            x.hand(hand);
+            if (!marks[hand].isEmpty() && marks(x, hand, marks[hand]) < 0) {
+                throw new IllegalArgumentException(marks[hand]);
+            }
+        }
+        return x;
+    }
+
     void same(String what, String got, String want) {
         asked++;
         if (!got.equals(want)) {
             wrong++;
-            System.out.println(name + ": " + what + " is '" + got + "', due is '" + want + "'");
+            System.out.println(name + ": " + sentence + what + " is '" + got + "', due is '" + want + "'");
         }
     }
 }
