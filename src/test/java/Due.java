@@ -1,5 +1,14 @@
+import java.util.LinkedHashSet;
+import java.util.Set;
+
 /** Counts answers that are not as due, and tells texts to the TAPE of an object. */
 final class Due {
+    record Sentence(int promise, String words) {
+    }
+
+    /** All that were tested since the machine began. */
+    static final Set<Sentence> SENTENCES = new LinkedHashSet<>();
+
     private final String name;
     /** The sentence of the document that the answers rest on; told with each that is wrong. */
     private String sentence = "";
@@ -23,6 +32,7 @@ final class Due {
      * whether the document says it in these words, and whether any sentence is left without a test.
      */
     void sentence(int promise, String words) {
+        SENTENCES.add(new Sentence(promise, words));
         sentence = "[" + promise + ": " + words + "] ";
     }
 
