@@ -10,6 +10,8 @@ public final class EdgesEditTest {
         cheapest();
         longest();
         ofAnEdit();
+        everySmallText();
+        everyOrder();
         noSuchStep();
         withAMove();
         ofSeveralMoves();
@@ -19,6 +21,7 @@ public final class EdgesEditTest {
         fewestSets();
         ofSeveralSets();
         withoutClashes();
+        setsAnew();
         twelve();
         noSet();
         tooMany();
@@ -147,9 +150,77 @@ public final class EdgesEditTest {
         DUE.due("by another COST", x.edit(-1), 6 + 7 + 8);
         Due.wish(x, "abC");
         DUE.due("to another WISH", x.edit(-1), 0);
+        DUE.due("its steps", x.edit(-2), 3);
         Due.galley(x, "ab");
         DUE.due("of another GALLEY", x.edit(-1), 6);
+        DUE.due("its steps", x.edit(-2), 3);
         DUE.due("its last step", x.edit(2), 2);
+        GalleyMarks y = priced("g".repeat(50), "w".repeat(50), 1, 1, 1, 1);
+        DUE.due("all struck and put in", y.edit(-2), 100);
+        Due.wish(y, "G".repeat(50));
+        DUE.due("all raised", y.edit(-2), 50);
+        Due.wish(y, "g".repeat(50));
+        DUE.due("all kept", y.edit(-2), 50);
+        for (int k = 0; k < 50; k++) {
+            DUE.due("step " + k, y.edit(k), 0);
+        }
+    }
+
+    /** Every GALLEY and every WISH of few letters, as the other telling of the document has them. */
+    private static void everySmallText() {
+        DUE.sentence(0, "The cheapest row; of several the one whose step is less where they part.");
+        int[][] prices = {{0, 0, 0, 0, 0}, {1, 1, 1, 1, 1}, {2, 1, 2, 3, 1}, {1, 2, 3, 2, 0}, {9, 9, 1, 1, 2}, {0, 1, 1, 0, 0}, {1, 0, 0, 1, 1}};
+        for (int one = 0; one < 40; one++) {
+            for (int other = 0; other < 40; other++) {
+                everyPrice(small(one), small(other), prices);
+            }
+        }
+    }
+
+    /** Texts of up to three letters, by their number. */
+    private static String small(int number) {
+        String letters = "aAb";
+        StringBuilder text = new StringBuilder();
+        for (int rest = number; rest > 0; rest = (rest - 1) / 3) {
+            text.append(letters.charAt((rest - 1) % 3));
+        }
+        return text.toString();
+    }
+
+    private static void everyPrice(String galley, String wish, int[][] prices) {
+        for (int[] costs : prices) {
+            Model model = new Model();
+            model.galley = galley;
+            model.wish = wish;
+            System.arraycopy(costs, 0, model.costs, 0, costs.length);
+            Model.Row row = model.edit(galley);
+            edit(galley, wish, row.cost(), row.steps(), costs);
+            int[] moved = model.moved();
+            move(galley, wish, moved[0], moved[1], moved[2], moved[3], costs);
+        }
+    }
+
+    /** Every WISH that is the letters of a GALLEY of five in another order. */
+    private static void everyOrder() {
+        DUE.sentence(0, "of several moves none first, then that with the least first PLACE, second, third.");
+        int[][] prices = {{9, 9, 1, 1, 0}, {9, 9, 1, 1, 1}, {1, 1, 9, 9, 0}, {2, 3, 1, 1, 1}};
+        orders("aabbc", "", prices);
+        orders("abcd", "", prices);
+        orders("aabcb", "", prices);
+    }
+
+    private static void orders(String left, String wish, int[][] prices) {
+        for (int i = 0; i < left.length(); i++) {
+            orders(left.substring(0, i) + left.substring(i + 1), wish + left.charAt(i), prices);
+        }
+        if (left.isEmpty()) {
+            String[] galleys = {"aabbc", "ababc", "cabba", "abcd", "dabc", "aabcb"};
+            for (String galley : galleys) {
+                if (galley.length() == wish.length()) {
+                    everyPrice(galley, wish, prices);
+                }
+            }
+        }
     }
 
     private static void noSuchStep() {
@@ -185,6 +256,15 @@ public final class EdgesEditTest {
         // cost times LONG: the shorter of the two passages
         move("abcde", "deabc", 6, 3, 5, 0, 9, 9, 9, 9, 3);
         move("abcde", "cdeab", 6, 0, 2, 5, 9, 9, 9, 9, 3);
+        // though the passage is short, it may lie far behind, or come from there
+        move("abcdex", "xabcde", 1, 5, 6, 0, 2, 2, 9, 9, 1);
+        move("vwxyzabcdef", "vwxyzbcdefa", 1, 5, 6, 11, 2, 2, 9, 9, 1);
+        // where all but the move costs one alone
+        move("ab", "ba", 0, 0, 1, 2, 1, 0, 9, 9, 0);
+        // BYTES ahead, within and behind are kept, turned, struck and put in
+        move("abcDe", "baCde", 1 + 2 + 3, 0, 1, 2, 9, 9, 2, 3, 1);
+        move("abcde", "dxeabc", 6 + 9, 3, 5, 0, 9, 9, 2, 9, 3);
+        move("xabcdy", "xcdaby", 4, 1, 3, 5, 9, 9, 9, 9, 2);
         // and the EDIT behind it
         move("abcde", "deABc", 6 + 4, 3, 5, 0, 9, 9, 2, 9, 3);
         move("abcde", "xdeabc", 6 + 9, 3, 5, 0, 9, 9, 2, 9, 3);
@@ -232,6 +312,12 @@ public final class EdgesEditTest {
         for (int what = 0; what < 4; what++) {
             DUE.due("moved(" + what + ")", x.moved(what), want[what]);
         }
+        Due.wish(x, "abdecxyz");
+        DUE.due("a longer WISH", x.moved(0), 1 + 27);
+        Due.wish(x, "abde");
+        DUE.due("a shorter WISH", x.moved(0), 9);
+        Due.wish(x, "abdec");
+        DUE.due("the WISH again", x.moved(0), 1);
         x.cost(4, 99);
         DUE.due("by another COST", x.moved(0), 18);
         DUE.due("none", x.moved(1), -2);
@@ -304,8 +390,24 @@ public final class EdgesEditTest {
         fewest("abc", "xabc", 1, "ins 0 'x';ins 0 'x'");
         fewest("ab", "b", -2, "stet 0 1;del 0 2;ins 1 'b'");
         fewest("ab", "b", 4, "stet 0 1;del 0 2;del 0 1");
+        fewest("abc", "BC", -2, "del 0 2", "cap 1 3");
+        fewest("abc", "BC", -2, "", "ins 3 'x';del 0 2", "ins 3 'y'", "cap 1 3");
         fewest("abcdefgh", "efghbacd", 3, "move 0 4 8;move 0 1 2");
         fewest("abcdefgh", "efghbcda", -2, "move 0 4 8;move 0 1 4");
+    }
+
+    private static void setsAnew() {
+        DUE.sentence(28, "FEWEST, the set;");
+        GalleyMarks x = Due.with("abc", "ins 0 'x';ins 0 'y'");
+        Due.wish(x, "xaybc");
+        DUE.due("of two that have a CLASH", x.fewest(), -2);
+        Due.galley(x, "abc");
+        Due.marks(x, 0, "ins 0 'x';ins 1 'y'");
+        DUE.due("of two that have none", x.fewest(), 3);
+        Due.wish(x, "abyc");
+        DUE.due("to another WISH", x.fewest(), -2);
+        Due.marks(x, 0, "ins 2 'y'");
+        DUE.due("of three", x.fewest(), 4);
     }
 
     /** One MARK for each of twelve BYTES. */

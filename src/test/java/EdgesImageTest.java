@@ -113,14 +113,16 @@ public final class EdgesImageTest {
         DUE.due("AGREE between", x.mark(0, 0, 5), 2);
         Due.galley(x, "other text of more BYTES");
         Due.marks(x, 0, "low 3 4");
-        Due.wish(x, "");
+        Due.marks(x, 2, "low 3 4");
+        Due.wish(x, "#########");
         for (int kind = 0; kind <= 6; kind++) {
             x.cost(kind, 99);
         }
         DUE.due("BYTES between", x.count(0), 24);
-        DUE.due("MARKS between", x.count(3), 1);
-        DUE.due("EDIT between", x.edit(-1), 24 * 99);
-        DUE.due("MOVED between", x.moved(0), 24 * 99);
+        DUE.due("MARKS between", x.count(3), 2);
+        DUE.due("AGREE between, anew", x.mark(0, 0, 5), 2);
+        DUE.due("EDIT between", x.edit(-1), (24 + 9) * 99);
+        DUE.due("MOVED between", x.moved(0), (24 + 9) * 99);
         DUE.due("FEWEST between", x.fewest(), -2);
         DUE.same("OUT between", Due.out(x, 0), "other text of more BYTES");
     }

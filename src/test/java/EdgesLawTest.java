@@ -153,7 +153,16 @@ public final class EdgesLawTest {
         boolean[][] holds = {{true, true, false, false, false}, {false, true, true, true, false}, {false, false, false, true, true}};
         for (int left = 6; left <= 8; left++) {
             for (int i = 0; i < signs.length; i++) {
-                test(left + signs[i] + "rank", holds[left - 6][i]);
+                String fact = left + signs[i] + "rank";
+                boolean is = holds[left - 6][i];
+                test(fact, is);
+                test("not " + fact, !is);
+                test("not not " + fact, is);
+                for (int j = 0; j < signs.length; j++) {
+                    String other = "7" + signs[j] + "rank";
+                    test(fact + " and " + other, is && holds[1][j]);
+                    test(other + " or " + fact, is || holds[1][j]);
+                }
             }
         }
         fault("stands 1 if 1==1", 14, 0);

@@ -50,6 +50,10 @@ public final class EdgesOutTest {
         out("abcdefgh", "efghadbc", "move 3 4 1;move 0 4 8");
         out("abcdefgh", "fgehabcd", "move 4 5 7;move 0 4 8");
         out("abcdefgh", "efghbacd", "move 0 1 2;move 4 8 0");
+        // where it lies counts nothing
+        out("abcdefghij", "abcdijfegh", "move 4 8 10;move 4 5 6");
+        out("abcdefghij", "abcdijfegh", "move 4 5 6;move 4 8 10");
+        out("abcdefghij", "abjcdefigh", "move 9 10 2;move 8 9 6");
         // the ends of a move to a lesser PLACE are as far from one another
         out("abcdefghij", "fghijbacde", "move 0 1 2;move 5 10 0");
         out("abcdefghij", "ghfijabdce", "move 5 6 8;move 2 3 4;move 0 5 10");
@@ -109,6 +113,9 @@ public final class EdgesOutTest {
         out("abc", "aXbc", "ins 1 'X'", "ins 1 'X'");
         out("abc", "aX bc", "ins 1 'X ';stet 0 1;stet 1 3");
         out("abcd", "cAB", "move 0 2 4;cap 0 2;del 3 4");
+        out("abcd", "cAB", "cap 0 2;del 3 4;move 0 2 4");
+        out("abcd", "cdb", "del 0 1;move 0 2 4");
+        out("ABcd", "cdab", "low 0 2;stet 2 4;move 0 2 4");
     }
 
     private static void standing() {
