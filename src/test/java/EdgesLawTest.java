@@ -30,6 +30,7 @@ public final class EdgesLawTest {
         firstClause();
         taken();
         refused();
+        nothingLeft();
         fourLaws();
         DUE.close();
     }
@@ -526,6 +527,23 @@ public final class EdgesLawTest {
         DUE.due("the next LAW", Due.law(x, "stands 4"), 1);
         DUE.due("WEIGHT by it", x.weight(1, 1, 1), 4);
         DUE.due("WEIGHT by the first", x.weight(0, 1, 1), 3);
+    }
+
+    /** The next LAW has nothing of a text that had a FAULT. */
+    private static void nothingLeft() {
+        DUE.sentence(8, "-2 - its FAULT;");
+        leavesNothing("stands 1 if 1=2;stands 7;oops", "stands 1 if 1=2", 0);
+        leavesNothing("stands 1 if not 1=1;oops", "stands 3 if 1=1", 3);
+        leavesNothing("stands 1 if 1=2 or 1=2;oops", "stands 4 if 1=1", 4);
+        leavesNothing("stands 8*8;".repeat(11) + "stands 8*8;", "stands 5 if 1=2;stands 6 if 1=2", 0);
+        leavesNothing("stands 1+1+1+1-", "stands 9", 9);
+    }
+
+    private static void leavesNothing(String wrong, String law, long want) {
+        GalleyMarks x = sheet();
+        DUE.holds("a FAULT of " + wrong, Due.law(x, wrong) < -2);
+        DUE.due("law of " + law, Due.law(x, law), 0);
+        DUE.due("WEIGHT by " + law + " behind " + wrong, x.weight(0, 1, 1), want);
     }
 
     private static void fourLaws() {

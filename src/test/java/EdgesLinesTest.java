@@ -9,11 +9,13 @@ public final class EdgesLinesTest {
         widths();
         wordsOnALine();
         broaderWords();
+        fullOut();
         whichText();
         noSuchText();
         whatOfALine();
         noSuchLine();
         changedLines();
+        changedAnew();
         changedByALaw();
         pages();
         fullPages();
@@ -23,6 +25,8 @@ public final class EdgesLinesTest {
         noSuchCost();
         costByALaw();
         costOfALine();
+        costAnew();
+        costOfSixtyFour();
         noSuchCosts();
         DUE.close();
     }
@@ -136,6 +140,43 @@ public final class EdgesLinesTest {
         set(" " + "g".repeat(61) + " ", 60, "1:60 61:1");
     }
 
+    /** So many times 20 BYTES put into a GALLEY of 200, none of them a blank. */
+    private static GalleyMarks put(int times) {
+        GalleyMarks x = lawful("g".repeat(200), "");
+        for (int k = 0; k < times; k++) {
+            Due.marks(x, 0, "ins " + k + " '" + "t".repeat(20) + "'");
+        }
+        return x;
+    }
+
+    private static void fullOut() {
+        DUE.sentence(0, "a word that is broader than the width begins a LINE and is cut into pieces of the width, the last of which is a word like "
+            + "others.");
+        for (int times = 10; times <= 11; times++) {
+            GalleyMarks x = put(times);
+            DUE.due("OUT is full", x.out(0), 400);
+            DUE.due("LINES for 5", x.lines(2, 5), 80);
+            DUE.due("the last one", x.line(2, 5, 79, 0), 395);
+            DUE.due("its BYTES", x.line(2, 5, 79, 1), 5);
+            DUE.due("none behind it", x.line(2, 5, 80, 0), -1);
+            DUE.due("LINES for 60", x.lines(2, 60), 7);
+            DUE.due("BYTES of the last one", x.line(2, 60, 6, 1), 40);
+            DUE.due("CHANGED", x.changed(0, 5), 80);
+            DUE.due("PAGES", x.run(0, 5, 60), 2);
+        }
+        // words of one BYTE: no text has more of them
+        set("a ".repeat(99) + "a", 5, threes());
+    }
+
+    /** 99 words of one BYTE and one more, three to a LINE. */
+    private static String threes() {
+        StringBuilder lines = new StringBuilder();
+        for (int k = 0; k < 33; k++) {
+            lines.append(6 * k).append(":5 ");
+        }
+        return lines.append("198:1").toString();
+    }
+
     private static void whichText() {
         DUE.sentence(21, "LINES of what 0: the GALLEY, 1: the WISH, 2 and above: OUT by the LAW 0, ..;");
         GalleyMarks x = Due.hands("aaa", "ins 0 'bbb '", "ins 3 ' ccc ddd'", "del 0 1");
@@ -229,6 +270,21 @@ public final class EdgesLinesTest {
         change("aaa bbb", "ins 3 '    '", 7, 0);
         change("aaa  bbb", "close 4", 7, 0);
         change("abcdef", "ins 5 ' '", 5, 0);
+    }
+
+    /** What was a LINE before is none when there are fewer. */
+    private static void changedAnew() {
+        DUE.sentence(0, "CHANGED: LINES (by their numbers) that are not alike in the GALLEY and in OUT (one that is there in one alone, too).");
+        GalleyMarks x = lawful("aaaaa bbbbb", "");
+        DUE.due("alike", x.changed(0, 5), 0);
+        Due.marks(x, 0, "del 5 11");
+        DUE.due("there in the GALLEY alone", x.changed(0, 5), 1);
+        DUE.due("PAGES", x.run(0, 5, 1), 1);
+        Due.galley(x, "aaaaa");
+        Due.marks(x, 0, "ins 5 ' bbbbb'");
+        DUE.due("there in OUT alone", x.changed(0, 5), 1);
+        Due.galley(x, "aaaaa bbbbb");
+        DUE.due("alike again", x.changed(0, 5), 0);
     }
 
     private static void changedByALaw() {
@@ -383,6 +439,35 @@ public final class EdgesLinesTest {
         most.cost(6, 99);
         DUE.due("all struck", most.costs(0, 5), 99 * 200 + 99 * 40);
         DUE.due("no MARKS", lawful("aaa").costs(0, 5), 0);
+    }
+
+    /** MARKS that are gone cost nothing. */
+    private static void costAnew() {
+        DUE.sentence(25, "COST by a LAW;");
+        GalleyMarks x = lawful("abcdefgh", "cap 0 2;del 2 5;stet 6 8");
+        x.cost(1, 10);
+        x.cost(2, 3);
+        x.cost(5, 7);
+        DUE.due("of three MARKS", x.costs(0, 60), 2 * 3 + 3 * 10 + 2 * 7);
+        Due.galley(x, "abcdefgh");
+        DUE.due("of none", x.costs(0, 60), 0);
+        Due.marks(x, 0, "cap 0 2");
+        DUE.due("of one", x.costs(0, 60), 2 * 3);
+    }
+
+    private static void costOfSixtyFour() {
+        DUE.sentence(25, "COST by a LAW;");
+        String[] marks = new String[4];
+        for (int hand = 0; hand < 4; hand++) {
+            StringBuilder told = new StringBuilder();
+            for (int k = 0; k < 16; k++) {
+                told.append(k == 0 ? "" : ";").append("del ").append(16 * hand + k).append(' ').append(16 * hand + k + 1);
+            }
+            marks[hand] = told.toString();
+        }
+        GalleyMarks x = lawful("g".repeat(64), marks);
+        x.cost(1, 99);
+        DUE.due("of all MARKS that there can be", x.costs(0, 60), 64 * 99);
     }
 
     private static void noSuchCosts() {

@@ -10,6 +10,8 @@ public final class EdgesOutTest {
         whatGoesAlong();
         touched();
         standing();
+        standingAnew();
+        sixtyFour();
         atMost400();
         bytesOfOut();
         withoutALaw();
@@ -127,6 +129,40 @@ public final class EdgesOutTest {
         DUE.same("the cap FALLS", Due.out(x, 0), "cdef!");
         DUE.same("the del FALLS", Due.out(x, 1), "aBCdef!");
         DUE.same("both are OPEN", Due.out(x, 2), "abcdef!");
+    }
+
+    /** Nothing is left of MARKS that stood before. */
+    private static void standingAnew() {
+        DUE.sentence(0, "OUT: the TEXT by all MARKS that stand (400 BYTES at most: what is more is lost).");
+        GalleyMarks x = lawful("abcdef", "cap 0 1;move 0 2 4;ins 6 '!';del 5 6");
+        DUE.same("of four MARKS", Due.out(x, 0), "cdAbe!");
+        Due.galley(x, "abcdef");
+        DUE.same("of none", Due.out(x, 0), "abcdef");
+        Due.marks(x, 0, "cap 3 4");
+        DUE.same("of one", Due.out(x, 0), "abcDef");
+        GalleyMarks full = lawful("g".repeat(200), "ins 200 'x';del 199 200");
+        DUE.due("behind the last of 200", full.reads(0, 199), 'x');
+        Due.galley(full, "h".repeat(200));
+        DUE.due("BYTES without it", full.out(0), 200);
+        DUE.due("the last of 200", full.reads(0, 199), 'h');
+    }
+
+    /** All MARKS that there can be stand, each shows. */
+    private static void sixtyFour() {
+        DUE.sentence(0, "OUT: the TEXT by all MARKS that stand (400 BYTES at most: what is more is lost).");
+        GalleyMarks x = Due.hands("ab".repeat(64), caps(0), caps(16), caps(32), caps(48));
+        Due.law(x, "stands 1");
+        DUE.due("all stand", x.many(0, 1), 64);
+        DUE.same("64 caps", Due.out(x, 0), "Ab".repeat(64));
+    }
+
+    /** Sixteen caps, each of an a of "ab" told again and again. */
+    private static String caps(int from) {
+        StringBuilder marks = new StringBuilder();
+        for (int k = from; k < from + 16; k++) {
+            marks.append(k == from ? "" : ";").append("cap ").append(2 * k).append(' ').append(2 * k + 1);
+        }
+        return marks.toString();
     }
 
     /** A GALLEY of 200 BYTES, the last a z, with so many BYTES put in. */

@@ -11,6 +11,7 @@ public final class EdgesStandsTest {
         byThoseThatStandAlready();
         openOfOneWeight();
         extremeWeights();
+        sixtyFourWeights();
         weights();
         withoutAWeight();
         states();
@@ -36,6 +37,24 @@ public final class EdgesStandsTest {
             got.append(x.stands(0, 0, k));
         }
         DUE.same(marks + " by " + law, got.toString(), want);
+    }
+
+    /** As many MARKS as there can be, each of a WEIGHT of its own: the last of them is decided, too. */
+    private static void sixtyFourWeights() {
+        DUE.sentence(0, ORDER);
+        String sixteen = "cap 0 1;".repeat(15) + "cap 0 1";
+        GalleyMarks x = Due.hands(GALLEY, sixteen, sixteen, sixteen, "cap 0 1;".repeat(15) + "del 0 1");
+        Due.law(x, "stands 99-16*hand-number");
+        Due.law(x, "stands 16*hand+number");
+        DUE.due("the least WEIGHT", x.weight(0, 3, 15), 36);
+        DUE.due("the lightest of 64 FALLS", x.stands(0, 3, 15), 0);
+        DUE.due("by the first", x.falls(0, 3, 15), 0);
+        DUE.due("one FALLS", x.many(0, 0), 1);
+        DUE.due("63 stand", x.many(0, 1), 63);
+        DUE.due("the heaviest of 64 stands", x.stands(1, 3, 15), 1);
+        DUE.due("the lightest FALLS", x.stands(1, 0, 0), 0);
+        DUE.due("63 FALL", x.many(1, 0), 63);
+        DUE.due("one stands", x.many(1, 1), 1);
     }
 
     private static void heaviestFirst() {
