@@ -2021,8 +2021,8 @@ public final class GalleyMarks {
             for (int i = a; i < b; i++) {
                 extend(sheet, whole, i);
             }
-            int least = Integer.MAX_VALUE;
-            for (int j = 0; j <= sheet.wishSize && j < ROW; j++) {
+            int least = whole[0] + behind[c * ROW];
+            for (int j = 1; j <= sheet.wishSize && j < ROW; j++) {
                 least = Math.min(least, whole[j] + behind[c * ROW + j]);
             }
             offer(least + each * (b - a), a, b, c);

@@ -27,6 +27,7 @@ public final class LanguageTest {
 
     public static void main(String[] args) throws IOException {
         face();
+        faceOfDocument();
         classes();
         source(Files.readString(Path.of("src/main/java/GalleyMarks.java")));
         DUE.close();
@@ -69,6 +70,20 @@ public final class LanguageTest {
         }
     }
 
+    /** The face as the document has it: without the document, FACE alone is compared. */
+    private static void faceOfDocument() throws IOException {
+        Path document = Path.of("../shared/DOC.md");
+        if (!Files.exists(document)) {
+            return;
+        }
+        Set<String> told = new TreeSet<>();
+        Matcher method = Pattern.compile("(?m)^    public (int|long) (\\w+)\\((.*)\\);$").matcher(Files.readString(document));
+        while (method.find()) {
+            told.add(method.group(1) + " " + method.group(2) + "(" + method.group(3).replaceAll("int \\w+", "int").replace(", ", ",") + ")");
+        }
+        DUE.same("the face of the document", told.toString(), new TreeSet<>(Arrays.asList(FACE)).toString());
+    }
+
     private static List<Class<?>> all() {
         List<Class<?>> all = new ArrayList<>(List.of(GalleyMarks.class.getDeclaredClasses()));
         all.add(GalleyMarks.class);
@@ -99,6 +114,11 @@ public final class LanguageTest {
         for (String word : never) {
             Matcher found = Pattern.compile(word).matcher(code);
             DUE.holds("never " + word, !found.find());
+        }
+        Set<String> library = Set.of("Arrays.fill", "Arrays.copyOf", "System.arraycopy", "Math.min", "Math.max", "Integer.bitCount");
+        Matcher used = Pattern.compile("\\b(?:Arrays|System|Math|Integer|Long|Character|String)\\.\\w+").matcher(code);
+        while (used.find()) {
+            DUE.holds("4: " + used.group(), library.contains(used.group()));
         }
         DUE.holds("signs 1 to 127", source.chars().allMatch(c -> c >= 1 && c <= 127));
         methodLengths(source);
